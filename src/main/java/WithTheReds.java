@@ -113,7 +113,7 @@ public final class WithTheReds {
         if (!isSet(set) || !isHeatAndCloth(hc)) {
             return BAD;
         }
-        fillTub(set, hc);
+        tub.load(set, hc);
         switch (what) {
             case 0:
                 return tub.loose;
@@ -132,7 +132,7 @@ public final class WithTheReds {
         if (!isSet(set) || !isHeatAndCloth(hc) || !isOf(set, thing)) {
             return BAD;
         }
-        fillTub(set, hc);
+        tub.load(set, hc);
         return tub.tintOf(thing);
     }
 
@@ -140,7 +140,7 @@ public final class WithTheReds {
         if (!isSet(set) || !isHeatAndCloth(hc) || !within(t, 0, TINT_MOST)) {
             return BAD;
         }
-        fillTub(set, hc);
+        tub.load(set, hc);
         return tub.isSafe(t) ? 1 : 0;
     }
 
@@ -178,9 +178,8 @@ public final class WithTheReds {
             return BAD;
         }
         tub.warm(ht / 100);
-        int each = basket.told(0, Basket.CLOTH);
         for (int n = 0; n <= CLOTHS_MOST; n++) {
-            tub.fill(set, n * each);
+            tub.fill(set, tub.caughtBy(n));
             if (tub.isSafe(ht % 100)) {
                 return n;
             }
@@ -312,7 +311,7 @@ public final class WithTheReds {
         if (refusal != FINE) {
             return refusal;
         }
-        fillTub(set, hc);
+        tub.load(set, hc);
         return firstUnlike(shelves[shelf], set);
     }
 
@@ -404,7 +403,7 @@ public final class WithTheReds {
         if (!isSet(set) || !isHeatAndCloth(hc)) {
             return BAD;
         }
-        fillTub(set, hc);
+        tub.load(set, hc);
         return tub.goes() ? deeds.washAll(tub, hc % 10) : STATE;
     }
 
@@ -474,11 +473,7 @@ public final class WithTheReds {
     }
 
     public int act(int body, int act, int x) {
-        socks.clearTrace();
-        if (!socks.isBody(body) || !within(act, Socks.RUNS, Socks.TELLS)) {
-            return 0;
-        }
-        return socks.own(body, act, x, 0);
+        return socks.begin(body, act, x);
     }
 
     public int trace(int i) {
@@ -647,11 +642,6 @@ public final class WithTheReds {
         return came;
     }
 
-    private void fillTub(int set, int hc) {
-        tub.warm(hc / 10);
-        tub.fill(set, hc % 10 == 0 ? 0 : basket.told(0, Basket.CLOTH));
-    }
-
     /** The first THING of a set whose tint in the tub is not the row's; NOT. */
     private int firstUnlike(Shelf row, int set) {
         for (int thing = 0; thing < basket.things && row.hasPlace(thing); thing++) {
@@ -664,10 +654,11 @@ public final class WithTheReds {
 
     /** The THINGS (bits) any one of which, washed with a set, makes the set's tints the row's. */
     private int guests(Shelf row, int set, int hc) {
+        tub.warm(hc / 10);
         int found = 0;
         for (int thing = 0; thing < basket.things; thing++) {
             if (!isOf(set, thing)) {
-                fillTub(set | 1 << thing, hc);
+                tub.fill(set | 1 << thing, tub.caughtBy(hc % 10));
                 found |= firstUnlike(row, set) == NOT ? 1 << thing : 0;
             }
         }
@@ -729,17 +720,23 @@ public final class WithTheReds {
         }
 
         int numberAt(int slot) {
-            return within(slot, 0, numbers.length - 1) ? numbers[slot] : 0;
+            return slot >= 0 && slot < numbers.length ? numbers[slot] : 0;
         }
 
         void write(int slot, int v) {
-            if (within(slot, 0, numbers.length - 1)) {
+            if (slot >= 0 && slot < numbers.length) {
                 numbers[slot] = v;
             }
         }
 
-        int told(int number, int what) {
-            return numberAt(slot(number, what));
+        int told(int thing, int what) {
+            int slot = thing * EACH + what;
+            return slot >= 0 && slot < HOUSE ? numbers[slot] : 0;
+        }
+
+        int toldOfHouse(int what) {
+            int slot = HOUSE + what - DRUM;
+            return slot >= HOUSE && slot < numbers.length ? numbers[slot] : 0;
         }
 
         int stateOf(int number, int what) {
@@ -1071,7 +1068,7 @@ public final class WithTheReds {
         }
 
         private int lastWaiting() {
-            return within(waits, 1, BYTES_MOST) ? waiting[waits - 1] : 0;
+            return waits > 0 && waits <= BYTES_MOST ? waiting[waits - 1] : 0;
         }
 
         private void pushWaiting(int c) {
@@ -1120,7 +1117,7 @@ public final class WithTheReds {
         void warm(int toHeat) {
             heat = toHeat;
             for (int thing = 0; thing < basket.things; thing++) {
-                given[thing] = dyeOf(thing, toHeat);
+                given[thing] = dyeIf(thing, basket.told(thing, Basket.DYE), basket.told(thing, Basket.WASHED), toHeat);
             }
         }
 
@@ -1128,6 +1125,15 @@ public final class WithTheReds {
             if (basket.isThing(thing)) {
                 given[thing] = dyeIf(thing, dye, basket.told(thing, Basket.WASHED), heat);
             }
+        }
+
+        void load(int withSet, int hc) {
+            warm(hc / 10);
+            fill(withSet, caughtBy(hc % 10));
+        }
+
+        int caughtBy(int cloths) {
+            return cloths * basket.toldOfHouse(Basket.CLOTH);
         }
 
         void fill(int withSet, int caught) {
@@ -1188,7 +1194,7 @@ public final class WithTheReds {
                     size += basket.told(thing, Basket.SIZE);
                 }
             }
-            return size <= basket.told(0, Basket.DRUM);
+            return size <= basket.toldOfHouse(Basket.DRUM);
         }
 
         boolean isSafe(int most) {
@@ -1387,7 +1393,7 @@ public final class WithTheReds {
         }
 
         private int dayOf(int run) {
-            int each = basket.told(0, Basket.DAY);
+            int each = basket.toldOfHouse(Basket.DAY);
             return each > 0 ? run / each : 0;
         }
 
@@ -1480,7 +1486,7 @@ public final class WithTheReds {
         /** Hangs a THING behind those at the places ahead, unless the line is too short for it. */
         private boolean hangs(int thing, int place) {
             int size = basket.told(thing, Basket.SIZE);
-            if (place >= THINGS_MOST || size > basket.told(0, Basket.LINE)) {
+            if (place >= THINGS_MOST || size > basket.toldOfHouse(Basket.LINE)) {
                 return false;
             }
             chain[place] = thing;
@@ -1490,7 +1496,7 @@ public final class WithTheReds {
         }
 
         private int minuteFor(int size, int ahead) {
-            int room = basket.told(0, Basket.LINE) - size;
+            int room = basket.toldOfHouse(Basket.LINE) - size;
             int minute = ahead > 0 ? hungAt[ahead - 1] : 0;
             // Each step takes at least one of those ahead off the line.
             for (int step = 0; step < ahead && loadAt(minute, ahead) > room; step++) {
@@ -1629,7 +1635,7 @@ public final class WithTheReds {
         static final int KIND_LAST = 7;
         private static final int BODIES_MOST = 50, TRACE_MOST = 24, DEEPEST = 40;
         private static final int ACTS = 4;
-        private static final int[] ABOVE = {NONE, 0, 0, 2, 1, 3, 0, 6};
+        private static final int[] ABOVE = {-1, 0, 0, 2, 1, 3, 0, 6};
         // Bodies of runs, tints, dries, tells, a line a KIND; 0: the KIND has none of its own.
         private static final int[] OWN = {
             1, 10, 11, 2,
@@ -1674,15 +1680,16 @@ public final class WithTheReds {
             return false;
         }
 
-        void clearTrace() {
-            ran = 0;
-        }
-
         int kept() {
             return Math.min(ran, TRACE_MOST);
         }
 
-        int own(int number, int act, int x, int depth) {
+        int begin(int number, int act, int x) {
+            ran = 0;
+            return within(act, RUNS, TELLS) ? own(number, act, x, 0) : 0;
+        }
+
+        private int own(int number, int act, int x, int depth) {
             return isBody(number) ? from(kinds[number], number, act, x, depth) : 0;
         }
 
