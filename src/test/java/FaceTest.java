@@ -1,0 +1,116 @@
+import java.lang.reflect.Constructor;
+import java.lang.reflect.Field;
+import java.lang.reflect.Method;
+import java.lang.reflect.Modifier;
+import java.nio.file.Files;
+import java.nio.file.Path;
+import java.util.Arrays;
+import java.util.List;
+import java.util.Set;
+import java.util.TreeSet;
+import java.util.regex.Pattern;
+
+/** The public face, and those rules of LANGUAGE.md that can be seen from the class and its text. */
+final class FaceTest {
+    private static final String[] FACE = {
+        "int thing(int,int)", "int things(int,int,int)", "int mend(int,int,int)", "int of(int,int)", "int feed(int)",
+        "int law()", "int gives(int,int)", "int run(int,int,int)", "int tint(int,int,int)", "int safe(int,int,int)",
+        "int together(int,int)", "int heat(int,int)", "int cloths(int,int)", "int heaps(int,int,int)",
+        "int cost(int,int,int)", "int alone(int,int)", "int late(int,int)", "int soon(int,int)", "int swap(int)",
+        "int line(int,int,int)", "int rain(int,int)", "int order(int,int)", "int judge(int,int,int)",
+        "int which(int,int,int,int)", "int heatOfIt(int,int)", "int sock(int,int,int,int)", "int test(int,int)",
+        "int drawn(int,int,int)", "int wash(int,int)", "int bleach(int)", "int throwAway(int)", "int led(int)",
+        "int image()", "int back()", "int undo()", "int redo()", "int body(int)", "int act(int,int,int)",
+        "int trace(int)", "int keep(int,int)", "int row(int,int,int)", "int put(int,int,long)",
+        "long element(int,int)", "int shift(int,int,int,int,int)", "int taken(int,int)", "int count(int)"};
+
+    public static void main(String[] args) throws Exception {
+        constants();
+        members();
+        nested();
+        text(Files.readAllLines(Path.of("src/main/java/WithTheReds.java")));
+        Due.end();
+    }
+
+    private static void constants() {
+        Due.is("BAD", WithTheReds.BAD, -1);
+        Due.is("NOT", WithTheReds.NOT, -2);
+        Due.is("FULL", WithTheReds.FULL, -3);
+        Due.is("STATE", WithTheReds.STATE, -5);
+        Due.is("VOID", WithTheReds.VOID, -2000000000);
+    }
+
+    private static void members() {
+        Class<?> c = WithTheReds.class;
+        Due.that("public", Modifier.isPublic(c.getModifiers()));
+        Due.that("final", Modifier.isFinal(c.getModifiers()));
+        Constructor<?>[] made = c.getDeclaredConstructors();
+        Due.is("constructors", made.length, 1);
+        Due.is("constructor's parameters", made[0].getParameterCount(), 0);
+        Due.that("public constructor", Modifier.isPublic(made[0].getModifiers()));
+        Set<String> seen = new TreeSet<>();
+        for (Method m : c.getDeclaredMethods()) {
+            if (Modifier.isPublic(m.getModifiers())) {
+                Due.that(m.getName() + " is of the object", !Modifier.isStatic(m.getModifiers()));
+                seen.add(m.getReturnType() + " " + m.getName()
+                        + Arrays.toString(m.getParameterTypes()).replace(" ", "").replace('[', '(').replace(']', ')'));
+            } else {
+                Due.that(m.getName() + " is private", Modifier.isPrivate(m.getModifiers()));
+            }
+        }
+        Due.that("the face is " + seen, seen.equals(new TreeSet<>(Arrays.asList(FACE))));
+        List<String> constants = List.of("BAD", "NOT", "FULL", "STATE", "VOID");
+        for (Field f : c.getDeclaredFields()) {
+            boolean isFace = constants.contains(f.getName());
+            Due.that(f.getName(), isFace ? Modifier.isPublic(f.getModifiers()) : Modifier.isPrivate(f.getModifiers()));
+            Due.that(f.getName() + " is final", Modifier.isFinal(f.getModifiers()));
+        }
+    }
+
+    private static void nested() {
+        Set<String> names = new TreeSet<>();
+        for (String line : FACE) {
+            names.add(line.substring(line.indexOf(' ') + 1, line.indexOf('(')));
+        }
+        Class<?>[] inside = WithTheReds.class.getDeclaredClasses();
+        Due.that("some twelve classes", inside.length <= 11);
+        for (Class<?> c : inside) {
+            Due.that(c + " is static", Modifier.isStatic(c.getModifiers()));
+            for (Method m : c.getDeclaredMethods()) {
+                Due.that(m + " bears a name of its own", !names.contains(m.getName()));
+                Due.that(m + " takes seven at most", m.getParameterCount() <= 7);
+            }
+            int own = 0;
+            for (Field f : c.getDeclaredFields()) {
+                boolean isStatic = Modifier.isStatic(f.getModifiers());
+                Due.that(f + " is final", !isStatic || Modifier.isFinal(f.getModifiers()));
+                own += isStatic ? 0 : 1;
+            }
+            Due.that(c + " has twenty fields at most", own <= 20);
+        }
+    }
+
+    private static void text(List<String> lines) {
+        String[] never = {"throw", "throws", "try", "catch", "finally", "synchronized", "assert", "import", "package",
+            "double", "float", "Random", "System.currentTimeMillis", "System.nanoTime", "Thread", "lambda", "->", "::",
+            "\\w+Exact\\(", "protected", "equals\\(", "hashCode", "toString"};
+        int opened = -1;
+        for (int i = 0; i < lines.size(); i++) {
+            String line = lines.get(i);
+            String code = line.replaceAll("//.*|^\\s*(/?\\*).*", "");
+            for (String word : never) {
+                String pattern = Character.isLetter(word.charAt(0)) ? "\\b" + word + "\\b" : word;
+                pattern = word.endsWith("(") ? word : pattern;
+                Due.that("line " + (i + 1) + " without " + word, !Pattern.compile(pattern).matcher(code).find());
+            }
+            Due.that("line " + (i + 1) + " is short", line.length() <= 120);
+            Due.that("line " + (i + 1) + " is of signs below 128", line.chars().allMatch(c -> c < 128));
+            boolean begins = line.matches(" {4,8}(public |private |static |final )*[\\w\\[\\]]*\\s?\\w+\\(.*\\) \\{");
+            opened = begins ? i : opened;
+            if (opened >= 0 && line.matches(" {4,8}\\}") && line.indexOf('}') == lines.get(opened).indexOf(lines.get(opened).trim())) {
+                Due.that("method of line " + (opened + 1) + " is short", i - opened < 60);
+                opened = -1;
+            }
+        }
+    }
+}
