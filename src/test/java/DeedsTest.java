@@ -10,6 +10,7 @@ final class DeedsTest {
         backWithNewThings();
         undoAndRedo();
         fortyChanges();
+        fortyOfMany();
         deedsAreNoChanges();
         Due.end();
     }
@@ -216,6 +217,49 @@ final class DeedsTest {
         }
         Due.is("as it was", w.of(0, 2), 45);
         Due.is("no more redo", w.redo(), -5);
+    }
+
+    private static String numbers(WithTheReds w) {
+        StringBuilder s = new StringBuilder();
+        for (int thing = 0; thing < 4; thing++) {
+            for (int what = 0; what < 8; what++) {
+                s.append(w.of(thing, what)).append(' ');
+            }
+        }
+        for (int what = 8; what <= 11; what++) {
+            s.append(w.of(0, what)).append(' ');
+        }
+        return s.toString();
+    }
+
+    /** Changes of many numbers, more than are kept: each stand is come back to, back and forth. */
+    private static void fortyOfMany() {
+        WithTheReds w = new WithTheReds();
+        for (int i = 0; i < 4; i++) {
+            w.thing(i, 1);
+        }
+        String[] stands = new String[54];
+        stands[0] = numbers(w);
+        for (int i = 1; i < stands.length; i++) {
+            int what = i * 5 % 12;
+            int number = what < 8 ? i * 3 % 4 : 0;
+            w.mend(number, what, w.of(number, what) == 3 ? 1 + what % 8 / 3 * 3 : 3);
+            stands[i] = numbers(w);
+            Due.that("change " + i + " is one", !stands[i].equals(stands[i - 1]));
+        }
+        Due.is("forty", w.count(3), 40);
+        for (int round = 0; round < 2; round++) {
+            for (int i = stands.length - 2; i >= stands.length - 41; i--) {
+                w.undo();
+                Due.that("undone to stand " + i, numbers(w).equals(stands[i]));
+            }
+            Due.is("no more", w.undo(), -5);
+            for (int i = stands.length - 40; i < stands.length; i++) {
+                w.redo();
+                Due.that("done again to stand " + i, numbers(w).equals(stands[i]));
+            }
+            Due.is("no more again", w.redo(), -5);
+        }
     }
 
     private static void deedsAreNoChanges() {

@@ -163,6 +163,10 @@ final class RunTest {
         Due.is("nine catch nine", w.cloths(9, 300), 9);
         Due.is("nine catch no ten", w.cloths(9, 400), -2);
         Due.is("12 less 9 is 3", w.cloths(9, 403), 9);
+        w.mend(3, 1, 5);
+        Due.is("ten would catch ten, nine leave one", w.cloths(9, 600), -2);
+        Due.is("nine, if one is borne", w.cloths(9, 601), 9);
+        w.mend(3, 1, 9);
         w.mend(0, 9, 0);
         Due.is("they catch nothing", w.cloths(9, 300), -2);
         w.mend(0, 8, 4);
