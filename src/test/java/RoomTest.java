@@ -27,7 +27,7 @@ final class RoomTest {
             warm += allCalls(w);
         }
         long made = allocated() - before;
-        Due.that("calls made " + made + " bytes", made < 2_000);
+        Due.that("calls made " + made + " bytes", made < 16_000);
         System.out.println("an object takes " + each + " bytes; some 2,000 calls made " + made + " (" + warm + ")");
         Due.end();
     }
