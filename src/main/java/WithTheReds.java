@@ -1301,6 +1301,7 @@ public final class WithTheReds {
             return least != NEVER;
         }
 
+        /** Ways come by their numbers, and only a cheaper one takes the place of one found. */
         private void part(int at, int used, int price) {
             if (price >= least) {
                 return;
@@ -1467,6 +1468,7 @@ public final class WithTheReds {
             return soonest != NEVER;
         }
 
+        /** Orders come by their numbers, and only a sooner one takes the place of one found. */
         private void arrange(int left, int place, int end) {
             if (end >= soonest || place > ORDERED_MOST) {
                 return;
