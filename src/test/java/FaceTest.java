@@ -107,7 +107,8 @@ final class FaceTest {
             Due.that("line " + (i + 1) + " is of signs below 128", line.chars().allMatch(c -> c < 128));
             boolean begins = line.matches(" {4,8}(public |private |static |final )*[\\w\\[\\]]*\\s?\\w+\\(.*\\) \\{");
             opened = begins ? i : opened;
-            if (opened >= 0 && line.matches(" {4,8}\\}") && line.indexOf('}') == lines.get(opened).indexOf(lines.get(opened).trim())) {
+            int column = opened < 0 ? -1 : lines.get(opened).indexOf(lines.get(opened).trim());
+            if (opened >= 0 && line.matches(" {4,8}\\}") && line.indexOf('}') == column) {
                 Due.that("method of line " + (opened + 1) + " is short", i - opened < 60);
                 opened = -1;
             }

@@ -49,7 +49,8 @@ final class RoomTest {
     }
 
     private static long allCalls(WithTheReds w) {
-        long sum = w.thing(0, 1) + w.row(0, 0, 60) + w.things(0, 0, 10) + w.mend(1, 5, 3) + w.mend(1, 5, 4) + w.of(0, 12);
+        long sum = w.thing(0, 1) + w.row(0, 0, 60) + w.things(0, 0, 10) + w.mend(1, 5, 3) + w.mend(1, 5, 4) + w.of(0,
+                12);
         for (int i = 0; i < 30; i++) {
             sum += w.feed("r>n?(r-n)*h;!(r=3)*-(-(5))+s*b".charAt(i));
         }

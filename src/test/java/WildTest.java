@@ -12,7 +12,8 @@ import java.util.Random;
  */
 final class WildTest {
     private static final int[] EDGES = {Integer.MIN_VALUE, Integer.MIN_VALUE + 1, -1000, -300, -31, -15, -2, -1, 0, 1,
-        2, 3, 4, 5, 6, 7, 8, 9, 10, 11, 12, 13, 19, 20, 29, 30, 31, 32, 49, 50, 59, 60, 61, 63, 90, 91, 99, 100, 119, 120,
+        2, 3, 4, 5, 6, 7, 8, 9, 10, 11, 12, 13, 19, 20, 29, 30, 31, 32, 49, 50, 59, 60, 61, 63, 90, 91, 99, 100, 119,
+                120,
         255, 256, 299, 300, 309, 310, 399, 511, 999, 1000, 1023, 1024, 65535, 65536, Integer.MAX_VALUE - 1,
         Integer.MAX_VALUE};
     private static final long[] LONGS = {Long.MIN_VALUE, -1, 0, 1, 127, 128, 300, Long.MAX_VALUE};
