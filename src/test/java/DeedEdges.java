@@ -197,23 +197,37 @@ final class DeedEdges {
 
     private static void fortyAtMost() {
         Doc.says("40 at most are kept;");
-        for (int n = 39; n <= 42; n++) {
+        for (int n = 39; n <= 43; n++) {
+            // Each change is of another number than those around it.
+            int[] whats = {2, 5, 9};
+            int[][] stands = new int[n + 1][];
+            stands[0] = new int[] {0, 12, 6};
             Asked a = Asked.many(1, 0, 1);
             for (int i = 1; i <= n; i++) {
-                a.due(i - 1, "mend", 0, 2, i).due(Math.min(i, 40), "count", 3);
+                stands[i] = stands[i - 1].clone();
+                stands[i][i % 3] = 20 + i;
+                a.due(stands[i - 1][i % 3], "mend", 0, whats[i % 3], 20 + i).due(Math.min(i, 40), "count", 3);
             }
-            for (int left = Math.min(n, 40) - 1; left >= 0; left--) {
+            int kept = Math.min(n, 40);
+            for (int left = kept - 1; left >= 0; left--) {
                 a.due(left, "undo");
+                numbers(a, whats, stands[n - kept + left]);
             }
             // The earliest ones are kept no further.
-            a.due(-5, "undo").due(Math.max(0, n - 40), "of", 0, 2).due(0, "count", 3);
-            for (int left = Math.min(n, 40) - 1; left >= 0; left--) {
+            a.due(-5, "undo").due(0, "count", 3);
+            for (int left = kept - 1; left >= 0; left--) {
                 a.due(left, "redo");
             }
-            a.due(-5, "redo").due(n, "of", 0, 2).due(Math.min(n, 40), "count", 3);
+            numbers(a.due(-5, "redo").due(kept, "count", 3), whats, stands[n]);
             // Full again: one undone makes room for one, and what was undone is forgotten.
-            a.due(Math.min(n, 40) - 1, "undo").does("mend", 0, 2, 90).due(Math.min(n, 40), "count", 3).due(-5, "redo");
+            a.due(kept - 1, "undo").does("mend", 0, 2, 90).due(kept, "count", 3).due(-5, "redo");
             a.does("mend", 0, 2, 91).due(Math.min(n + 1, 40), "count", 3);
+        }
+    }
+
+    private static void numbers(Asked a, int[] whats, int[] want) {
+        for (int i = 0; i < whats.length; i++) {
+            a.due(want[i], "of", 0, whats[i]);
         }
     }
 

@@ -8,9 +8,8 @@ import java.util.Arrays;
 import java.util.List;
 import java.util.Set;
 import java.util.TreeSet;
-import java.util.regex.Pattern;
 
-/** The public face, and those rules of LANGUAGE.md that can be seen from the class and its text. */
+/** The public face: LANGUAGE.md, number 1; the other rules are LanguageTest's. */
 final class FaceTest {
     private static final String[] FACE = {
         "int thing(int,int)", "int things(int,int,int)", "int mend(int,int,int)", "int of(int,int)", "int feed(int)",
@@ -67,51 +66,23 @@ final class FaceTest {
         }
     }
 
+    /** No method inside bears the name of a public one. */
     private static void nested() {
         Set<String> names = new TreeSet<>();
         for (String line : FACE) {
             names.add(line.substring(line.indexOf(' ') + 1, line.indexOf('(')));
         }
-        Class<?>[] inside = WithTheReds.class.getDeclaredClasses();
-        Due.that("some twelve classes", inside.length <= 11);
-        for (Class<?> c : inside) {
-            Due.that(c + " is static", Modifier.isStatic(c.getModifiers()));
+        for (Class<?> c : WithTheReds.class.getDeclaredClasses()) {
             for (Method m : c.getDeclaredMethods()) {
                 Due.that(m + " bears a name of its own", !names.contains(m.getName()));
-                Due.that(m + " takes seven at most", m.getParameterCount() <= 7);
             }
-            int own = 0;
-            for (Field f : c.getDeclaredFields()) {
-                boolean isStatic = Modifier.isStatic(f.getModifiers());
-                Due.that(f + " is final", !isStatic || Modifier.isFinal(f.getModifiers()));
-                own += isStatic ? 0 : 1;
-            }
-            Due.that(c + " has twenty fields at most", own <= 20);
         }
     }
 
     private static void text(List<String> lines) {
-        String[] never = {"throw", "throws", "try", "catch", "finally", "synchronized", "assert", "import", "package",
-            "double", "float", "Random", "System.currentTimeMillis", "System.nanoTime", "Thread", "lambda", "->", "::",
-            "\\w+Exact\\(", "protected", "equals\\(", "hashCode", "toString"};
-        int opened = -1;
         for (int i = 0; i < lines.size(); i++) {
-            String line = lines.get(i);
-            String code = line.replaceAll("//.*|^\\s*(/?\\*).*", "");
-            for (String word : never) {
-                String pattern = Character.isLetter(word.charAt(0)) ? "\\b" + word + "\\b" : word;
-                pattern = word.endsWith("(") ? word : pattern;
-                Due.that("line " + (i + 1) + " without " + word, !Pattern.compile(pattern).matcher(code).find());
-            }
-            Due.that("line " + (i + 1) + " is short", line.length() <= 120);
-            Due.that("line " + (i + 1) + " is of signs below 128", line.chars().allMatch(c -> c < 128));
-            boolean begins = line.matches(" {4,8}(public |private |static |final )*[\\w\\[\\]]*\\s?\\w+\\(.*\\) \\{");
-            opened = begins ? i : opened;
-            int column = opened < 0 ? -1 : lines.get(opened).indexOf(lines.get(opened).trim());
-            if (opened >= 0 && line.matches(" {4,8}\\}") && line.indexOf('}') == column) {
-                Due.that("method of line " + (opened + 1) + " is short", i - opened < 60);
-                opened = -1;
-            }
+            Due.that("line " + (i + 1) + " is short", lines.get(i).length() <= 120);
+            Due.that("line " + (i + 1) + " is of signs below 128", lines.get(i).chars().allMatch(c -> c < 128));
         }
     }
 }

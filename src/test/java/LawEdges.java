@@ -77,6 +77,9 @@ final class LawEdges {
         worth("1+".repeat(59) + "1", 60);
         worth("1+".repeat(58) + "11+9", 58 + 20);
         worth("1+".repeat(59) + "12", 59 + 12);
+        worth("-1" + "+1".repeat(59), 58);
+        worth("0?1;" + "-1" + "+1".repeat(57), 56);
+        worth("!1" + "+1".repeat(57) + "?8", 8);
         fault("1+".repeat(60), 120);
         fault("1+".repeat(59) + "1x", 119);
         fault("1+".repeat(59) + "1;", 120);
@@ -190,6 +193,9 @@ final class LawEdges {
         fault("9999r", 4);
         fault("1(", 1);
         fault("()", 1);
+        fault("(1)1", 3);
+        fault("1+r2", 3);
+        fault("(1+2)3", 5);
         fault("(1", 2);
         fault("1)", 1);
         fault("r(", 1);
@@ -361,8 +367,18 @@ final class LawEdges {
         for (int length = 1; length < 120; length += 2) {
             fault("-" + "1&".repeat(length / 2), length);
         }
-        Asked a = told("5");
-        a.due(-100, "law").due(5, "gives", 0, 4);
+        // A FAULT leaves nothing behind: not its brackets, not its signs, not its numbers.
+        String[] wrong = {"((((((1", "------", "1?2?", "1+(2*(3-", "1;(", "(12", "(1|2", "1<2<", "5?", "!(1"};
+        for (String one : wrong) {
+            Asked a = told("5");
+            Due.that("law " + one + " is a FAULT", a.tell(one) <= -100);
+            a.due(5, "gives", 0, 4);
+            Due.is("law 1) behind " + one, a.tell("1)"), -101);
+            Due.is("law 1?2?3 behind " + one, a.tell("1?2?3"), -103);
+            Due.is("law r3 behind " + one, a.tell("r3"), -101);
+            a.law("((((((9))))))?8").due(8, "gives", 0, 4).law("3").due(3, "gives", 0, 4);
+        }
+        told("5").due(-100, "law").due(5, "gives", 0, 4);
     }
 
     private static void heldWithin() {

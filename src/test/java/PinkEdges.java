@@ -84,6 +84,11 @@ final class PinkEdges {
         a.due(3, "which", 1, 1, 31, 1).does("put", 1, 0, 0).due(2, "which", 1, 1, 31, 0).due(1, "which", 1, 1, 31, 1);
         // One that is of the RUN is no more THING; all are of it: none.
         a.does("put", 1, 0, 13).due(0, "which", 1, 15, 30, 0).due(-2, "which", 1, 15, 30, 1);
+        // At each heat, with a CLOTH and without: what the red one gives.
+        for (int heat = 3; heat <= 9; heat++) {
+            a.does("put", 1, 0, heat * 3).due(3, "which", 1, 1, heat * 10, 1).due(0, "which", 1, 1, heat * 10 + 1, 0);
+            a.does("put", 1, 0, heat * 3 - 6).due(3, "which", 1, 1, heat * 10 + 1, 1);
+        }
         // An empty RUN: any one does.
         a.due(4, "which", 1, 0, 30, 0).due(0, "which", 1, 0, 30, 1);
         new Asked().does("row", 1, 1, 0).due(0, "which", 1, 0, 30, 0).due(-2, "which", 1, 0, 30, 1);
@@ -182,7 +187,8 @@ final class PinkEdges {
         // DYE 1 washed once gives none; what gives none at 3 may give some at 4.
         Asked b = Asked.many(2, 0, 1).law("h>3&s=1").due(0, "test", 3, 301).due(3, "test", 3, 401)
                 .due(3, "test", 3, 999);
-        b.law("99").due(0, "test", 3, 399).due(0, "test", 3, 999).law("98").due(3, "test", 3, 399)
+        b.due(0, "test", 3, 399).due(3, "test", 3, 499).law("99").due(0, "test", 3, 399).due(0, "test", 3, 999)
+                .law("98").due(3, "test", 3, 399)
                 .due(0, "test", 3, 398);
         b.law("h=3").due(0, "test", 3, 401).due(0, "test", 3, 499).due(3, "test", 3, 302);
         new Asked().due(0, "test", 0, 301).due(-1, "test", 1, 301);

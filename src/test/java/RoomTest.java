@@ -21,10 +21,12 @@ final class RoomTest {
         long each = (allocated() - before) / objects.length;
         Due.that("an object's room is small: " + each, each < 40_000);
 
-        WithTheReds w = filled();
+        for (int i = 0; i < objects.length; i++) {
+            objects[i] = filled();
+        }
         before = allocated();
-        for (int i = 0; i < 20; i++) {
-            warm += allCalls(w);
+        for (int i = 0; i < objects.length; i++) {
+            warm += allCalls(objects[i]);
         }
         long made = allocated() - before;
         Due.that("calls made " + made + " bytes", made < 16_000);

@@ -215,7 +215,7 @@ final class RunEdges {
         a.does("mend", 0, 9, 1).due(1, "cloths", 9, 308).due(-2, "cloths", 9, 400).due(-2, "cloths", 9, 402);
         a.due(9, "cloths", 9, 403).does("mend", 0, 9, 0).due(-2, "cloths", 9, 308).due(0, "cloths", 9, 309);
         a.due(0, "cloths", 0, 900).due(0, "cloths", 9, 399).due(-2, "cloths", 9, 799).does("mend", 0, 8, 4);
-        a.due(-2, "cloths", 9, 399);
+        a.due(-2, "cloths", 9, 399).due(0, "cloths", 1, 699).due(-2, "cloths", 1, 700).due(-2, "cloths", 1, 799);
         Twins.badIn("cloths", 1, NO_HT, 5, 0);
         Twins.refused(Twins::busy, -2, "cloths", 2, 399);
         Twins.bad("cloths", 2, 299);
@@ -232,7 +232,8 @@ final class RunEdges {
             a.does("mend", 0, 8, drum).due(runs[drum - 1], "heaps", 255, 300, -1).due(0, "heaps", 0, 300, -1);
             a.due(1, "heaps", 1, 300, -1).due(drum == 1 ? 2 : 1, "heaps", 3, 300, -1);
         }
-        a.due(1, "heaps", 255, 600, -1).due(-2, "heaps", 255, 700, -1).due(0, "heaps", 0, 900, -1);
+        a.due(1, "heaps", 255, 600, -1).due(1, "heaps", 255, 699, -1).due(-2, "heaps", 255, 700, -1)
+                .due(0, "heaps", 0, 900, -1);
         // One that no RUN may have makes it NOT, by whatever.
         a.does("mend", 7, 4, 9).due(-2, "heaps", 255, 300, -1).due(-2, "heaps", 255, 300, 0)
                 .due(1, "heaps", 127, 300, -1);
@@ -340,7 +341,8 @@ final class RunEdges {
         b.law("h>3").due(0, "alone", 3, 3).due(-2, "alone", 3, 4).law("n=99").due(-2, "alone", 3, 3);
         b.law("n=98").due(99, "alone", 3, 3).law("n=0").due(1, "alone", 3, 3).does("mend", 3, 2, 1)
                 .due(0, "alone", 3, 3);
-        b.law("0-n").due(0, "alone", 3, 9);
+        // No RUN count goes beyond WASHED 99.
+        b.law("0-n").due(0, "alone", 3, 9).law("n>99").due(0, "alone", 3, 9).law("n>98").due(-2, "alone", 3, 9);
         Twins.badIn("alone", 0, NO_THINGS, 0, 3);
         Twins.badIn("alone", 1, new int[] {2, 10, 0, -3, 30, MIN, MAX}, 0, 0);
         Twins.refused(() -> Twins.busy().does("feed", '1').does("law").law("1"), -2, "alone", 0, 3);

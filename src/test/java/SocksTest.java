@@ -160,14 +160,17 @@ final class SocksTest {
     }
 
     private static void act() {
-        WithTheReds w = new WithTheReds();
         int[] xs = {0, 1, -1, 5, 1000000007, Integer.MAX_VALUE, Integer.MIN_VALUE};
         for (int number = 0; number < 50; number++) {
-            w.body(number * 3 % 8);
-            Sock sock = made(number * 3 % 8, number);
+            int kind = number * 3 % 8;
+            WithTheReds w = new WithTheReds();
+            for (int i = 0; i <= number; i++) {
+                w.body(kind);
+            }
+            Sock sock = made(kind, number);
             for (int act = 0; act < 4; act++) {
                 for (int x : xs) {
-                    String said = "act " + act + " of kind " + number * 3 % 8 + " with " + x;
+                    String said = "act " + act + " of kind " + kind + " with " + x;
                     Due.is(said, w.act(number, act, x), due(sock, act, x));
                     trace(said, w);
                 }

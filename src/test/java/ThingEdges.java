@@ -216,6 +216,10 @@ final class ThingEdges {
             }
             a.due(length / 3, "things", 0, 0, 10).due(length / 3, "count", 0);
         }
+        // What a longer ROW left there is no element of a shorter one.
+        new Asked().row(0, 0, 0, 0, 1, 0, 0, 1).row(0, 0, 0, 0, 1, 0, 0).due(1, "things", 0, 0, 2);
+        new Asked().row(0, 0, 0, 0, 1, 0, 0, 1).row(0, 0, 0, 0, 1, 0).due(1, "things", 0, 0, 2);
+        new Asked().row(0, 0, 0, 0, 1, 0, 0, 1).row(0, 0).due(0, "things", 0, 0, 2);
         long[][] may = {{0, 0, 1}, {3, 0, 1}, {0, 9, 1}, {0, 0, 9}};
         for (long[] three : may) {
             new Asked().row(0, 0, 1, 1, 1, three[0], three[1], three[2], 1, 1, 1).due(3, "things", 0, 0, 3);

@@ -219,6 +219,9 @@ final class WhenEdges {
         Asked a = Asked.four().due(0, "line", 15, 3, 0).due(120, "line", 15, 3, 1).due(120, "line", 15, -1, 0);
         a.due(120, "line", 15, -1, 1).due(0, "line", 0, -1, 0).due(-2, "line", 0, 0, 0).due(-2, "line", 14, 0, 1);
         a.does("mend", 1, 5, 99).due(990, "line", 15, -1, 0).due(120, "line", 13, -1, 0);
+        // One alone; and whichever is the last to be dry.
+        a.due(120, "line", 8, -1, 0).due(990, "line", 2, -1, 0).does("mend", 0, 5, 98).does("mend", 3, 5, 97);
+        a.due(980, "line", 13, -1, 0).due(970, "line", 12, -1, 0).due(980, "line", 5, -1, 0);
         new Asked().due(0, "line", 0, -1, 0).due(-1, "line", 0, 0, 0);
         Asked.many(10, 0, 1).due(0, "line", 1023, 9, 0).due(-1, "line", 1023, 10, 0).due(-1, "line", 1024, -1, 0);
         Twins.badIn("line", 0, NO_SETS, 0, -1, 0);
